@@ -930,7 +930,7 @@ public final class BreakersYard {
 
         private int stepPlace(int fit, int i) {
             int place = fit * FitReader.MOST_STEPS + i;
-            return fit >= 0 && i >= 0 && place < steps.length ? place : NONE;
+            return fit >= 0 && i >= 0 && place >= 0 && place < steps.length ? place : NONE;
         }
 
         /**

@@ -128,6 +128,21 @@ public final class PromisesTest {
         Check.due("part of the old row", yard.part(0, 0, 2), 0);
         yard.row(0, 2, 7);
         Check.due("part of the new row", yard.part(0, 0, 2), -3);
+        Check.fillRow(yard, 0, 3, 4, 5, 6, 7, 8, 9, 10, 11, 12, 13, 14, 15);
+        yard.row(0, 3, 7);
+        yard.put(0, 3, 2, -1);
+        yard.put(0, 3, 3, 1);
+        yard.put(0, 3, 4, 1);
+        Check.due("part of a row renewed", yard.part(0, 0, 3), 1);
+        for (int what : new int[] {0, 1, 5, 6}) {
+            Check.due("0 at first: " + what, yard.told(0, 1, what), 0);
+        }
+        yard.row(0, 3, 0);
+        yard.row(0, 3, 7);
+        yard.put(0, 3, 3, 1);
+        yard.put(0, 3, 4, 1);
+        Check.due("part of a row renewed again", yard.part(0, 0, 3), 2);
+        Check.due("ahead is 0", yard.told(0, 2, 2), 0);
     }
 
     private static void puts() {
@@ -220,12 +235,13 @@ public final class PromisesTest {
         Check.feedText(yard, "M2");
         Check.due("none of it", yard.fit(0), -2);
         Check.due("the tape is empty again", yard.count(7), 0);
-        StringBuilder longest = new StringBuilder("Y1-22&Kh");
-        while (longest.length() < 98) {
-            longest.append("|Y1-22&!Kh".charAt((longest.length() - 8) % 10));
-        }
-        String whole = longest.substring(0, 98).replaceAll("[|][^|]*$", "");
-        Check.due("a long one", Check.fitText(yard, whole), 3);
+        Check.due("a hundred bytes", Check.fitText(yard, "M1|".repeat(32) + "M123"), 3);
+        Check.due("the last of them", yard.says(3, 123, 0, 0), true);
+        Check.due("not half of it", yard.says(3, 12, 0, 0), false);
+        Check.due("a hundred bytes to no end", Check.fitText(yard, "M1&".repeat(33) + " "), -102);
+        Check.due("many steps", Check.fitText(yard, "!!!!!!!!!!!!!!!!!!!!M1".concat("&!!!!!!!!!!!!!!!!!!!!M1".repeat(3))), 4);
+        Check.due("many steps, true", yard.says(4, 1, 0, 0), true);
+        Check.due("many steps, false", yard.says(4, 2, 0, 0), false);
     }
 
     private static void fitPlaces() {
@@ -1188,6 +1204,12 @@ public final class PromisesTest {
         best(yard, 0, 13, 7, 10);
         // At 20: -100, -200, 100, -99.
         best(yard, 0, 20, 0, 0);
+        BreakersYard little = new BreakersYard();
+        Check.makePart(little, 0, PLAIN, 1, -1, 10, 1, 0, 100);
+        Check.makePart(little, 0, PLAIN, 1, 0, 10, 1, 0, 101);
+        little.car(0, 0, 0, 0);
+        // At 10: 0 gains 0, and 1 behind it gains 1.
+        best(little, 0, 10, 3, 1);
         BreakersYard nought = new BreakersYard();
         Check.makePart(nought, 0, PLAIN, 1, -1, 10, 1, 0, 100);
         Check.makePart(nought, 0, PLAIN, 1, -1, 20, 1, 0, 0);
