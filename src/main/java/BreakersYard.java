@@ -253,7 +253,7 @@ public final class BreakersYard {
         if ((lacks & ~whole) != 0) {
             throw new IllegalArgumentException("it lacks what is no PART of it");
         }
-        if (carCount >= MOST_CARS || carCount >= cars.length) {
+        if (carCount < 0 || carCount >= cars.length) {
             return NONE;
         }
         Car come = new Car(model, year, marks, parts, whole & ~lacks, today);
@@ -519,7 +519,7 @@ public final class BreakersYard {
     }
 
     private int addItem(Item item) {
-        if (itemCount >= items.length) {
+        if (itemCount < 0 || itemCount >= items.length) {
             return NONE;
         }
         items[itemCount] = item;
@@ -745,7 +745,9 @@ public final class BreakersYard {
     }
 
     private int weightPlace(int stuff, int gate) {
-        return stuff >= 0 && stuff < STUFFS && gate >= 0 && gate < GATES ? stuff * GATES + gate : NONE;
+        boolean there = stuff >= 0 && stuff < STUFFS && gate >= 0 && gate < GATES;
+        int place = stuff * GATES + gate;
+        return there && place >= 0 && place < weights.length ? place : NONE;
     }
 
     /** A part's grams are added (times 1) or taken away (times -1) at a gate. */
@@ -812,7 +814,7 @@ public final class BreakersYard {
         }
 
         int open(int width) {
-            if (count >= MOST) {
+            if (count < 0 || count >= widths.length) {
                 return NONE;
             }
             widths[count] = width;
@@ -895,7 +897,7 @@ public final class BreakersYard {
 
         void append(int four) {
             for (int shift = 24; shift >= 0; shift -= 8) {
-                if (bytes < tape.length) {
+                if (bytes >= 0 && bytes < tape.length) {
                     tape[bytes] = (byte) (four >> shift);
                     bytes++;
                 }
@@ -922,7 +924,7 @@ public final class BreakersYard {
                     steps[place] = reader.stepAt(i);
                 }
             }
-            if (count < sizes.length) {
+            if (count >= 0 && count < sizes.length) {
                 sizes[count] = reader.size();
                 count++;
             }
@@ -1127,7 +1129,7 @@ public final class BreakersYard {
         }
 
         private void add(int sign, int first, int second) {
-            if (!wrong && size < steps.length) {
+            if (!wrong && size >= 0 && size < steps.length) {
                 steps[size] = sign << 2 * NUMBER_BITS | first << NUMBER_BITS | second;
                 size++;
             }
@@ -1249,7 +1251,7 @@ public final class BreakersYard {
 
         /** Items come by their numbers, so one that is equal otherwise goes behind. */
         void insert(int number, boolean own, int value) {
-            if (count >= numbers.length) {
+            if (count < 0 || count >= numbers.length) {
                 return;
             }
             int place = count;

@@ -20,6 +20,14 @@ final class Check {
         due(call, got ? 1 : 0, want ? 1 : 0);
     }
 
+    static void same(String name, String got, String want) {
+        asked++;
+        if (!got.equals(want)) {
+            wrong++;
+            System.out.println(name + ":\n" + got + "-- due is --\n" + want);
+        }
+    }
+
     static void dueThrow(String call, Class<?> want, Supplier<Object> run) {
         asked++;
         Object answer;
@@ -77,5 +85,16 @@ final class Check {
     /** A part that hangs on none, of 10 minutes, 100 grams, stuff 0. */
     static int plainPart(BreakersYard yard, int model, int kind, int name, int price) {
         return makePart(yard, model, kind, name, -1, 10, 100, 0, price);
+    }
+
+    /** So many of them, alike, by way of one row. */
+    static void plainParts(BreakersYard yard, int model, int n) {
+        for (int part = 0; part < n; part++) {
+            if (part == 0) {
+                plainPart(yard, model, 0, 1, 1);
+            } else {
+                yard.part(model, 0, 15);
+            }
+        }
     }
 }
