@@ -155,6 +155,10 @@ public final class PromisesTest {
         Check.due("put ahead", yard.put(0, 3, -1, 9), -2);
         Check.due("put on a missing row", yard.put(0, 4, 0, 9), -1);
         Check.due("put nowhere on a missing row", yard.put(0, 4, 99, 9), -1);
+        Check.fillRow(yard, 0, 0, SHELL, 0, -1, 1, 1, 0, 0);
+        Check.due("put at the first place of all", yard.put(0, 0, 0, DANGER), 1);
+        Check.due("part of the first row", yard.part(0, 0, 0), 0);
+        Check.due("what stood at the first place", yard.told(0, 0, 0), DANGER);
         Check.dueThrow("put on row 16", INDEX, () -> yard.put(0, 16, 0, 0));
         Check.dueThrow("put on row -1", INDEX, () -> yard.put(0, -1, 0, 0));
         Check.dueThrow("put on sheet 1", INDEX, () -> yard.put(1, 0, 0, 0));
@@ -239,7 +243,8 @@ public final class PromisesTest {
         Check.due("the last of them", yard.says(3, 123, 0, 0), true);
         Check.due("not half of it", yard.says(3, 12, 0, 0), false);
         Check.due("a hundred bytes to no end", Check.fitText(yard, "M1&".repeat(33) + " "), -102);
-        Check.due("many steps", Check.fitText(yard, "!!!!!!!!!!!!!!!!!!!!M1".concat("&!!!!!!!!!!!!!!!!!!!!M1".repeat(3))), 4);
+        String nots = "!".repeat(20) + "M1";
+        Check.due("many steps", Check.fitText(yard, nots + ("&" + nots).repeat(3)), 4);
         Check.due("many steps, true", yard.says(4, 1, 0, 0), true);
         Check.due("many steps, false", yard.says(4, 2, 0, 0), false);
     }
