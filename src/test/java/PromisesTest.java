@@ -1403,7 +1403,9 @@ public final class PromisesTest {
         yard.drain(0);
         Check.dueThrow("no car", ILLEGAL, () -> yard.car(0, -1, 0, 0));
         Check.dueThrow("no day", ILLEGAL, () -> yard.day(-1));
+        Check.due("another sheet", yard.sheet(1), 1);
         Check.plainPart(yard, 0, PLAIN, 1, 1);
+        Check.due("torn", yard.tear(0, 15), 1);
         Check.fitText(yard, "M1");
         yard.find(1, 0, 0, 0);
         Check.due("two acts", yard.count(6), 2);

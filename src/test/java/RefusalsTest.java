@@ -75,7 +75,7 @@ public final class RefusalsTest {
      * Six parts of each kind in model 0, cars 0 whole, 1 pressed, 2 drained without one, 3 with a taken part; items
      * 0 sold long ago, 1 BAD, 2 sold, 3 a DANGER on the shelf, 4 undone, 5 on the shelf; four acts that can be undone.
      */
-    private static void busy(BreakersYard yard) {
+    static void busy(BreakersYard yard) {
         yard.sheet(2);
         yard.sheet(0);
         Check.fillRow(yard, 0, 0, 0, 1, -1, 1, 1);
@@ -115,7 +115,8 @@ public final class RefusalsTest {
     }
 
     private static void fullTape(BreakersYard yard) {
-        for (int i = 0; i < 5; i++) {
+        busy(yard);
+        for (int i = 0; i < 4; i++) {
             yard.feed(0x4D31267C + i, 0, 0, 0, 0);
         }
     }
@@ -123,6 +124,15 @@ public final class RefusalsTest {
     private static void fullModel(BreakersYard yard) {
         Check.plainPart(yard, 0, 5, 1, 1);
         Check.plainParts(yard, 0, 23);
+        yard.car(0, 0, 0, 0);
+        takeAndFind(yard, 0, 1);
+    }
+
+    /** Leaves something to undo, found, and on the tape, for it to be seen that they stay. */
+    private static void takeAndFind(BreakersYard yard, int car, int part) {
+        yard.take(car, part);
+        yard.find(1, 0, 0, 0);
+        Check.feedText(yard, "M2");
     }
 
     private static void fullYard(BreakersYard yard) {
@@ -131,6 +141,7 @@ public final class RefusalsTest {
             yard.car(0, 0, 0, 0);
         }
         yard.drain(0);
+        takeAndFind(yard, 1, 0);
     }
 
     private static void fullShelf(BreakersYard yard) {
@@ -145,7 +156,7 @@ public final class RefusalsTest {
         yard.sell(5, 0);
         yard.drain(3);
         yard.take(3, 0);
-        yard.take(3, 1);
+        takeAndFind(yard, 3, 1);
     }
 
     private static void lastDay(BreakersYard yard) {
